@@ -241,7 +241,9 @@ public final class DayOpeners {
     private void tryDays(int n) {
         course.goesOf(told);
         trial.copy(now);
-        course.daysGo(trial, n);
+        for (int i = 0; i < n; i++) {
+            course.dayGoes(trial);
+        }
     }
 
     public int ahead(int n, int what, int trade) {
@@ -323,7 +325,11 @@ public final class DayOpeners {
     }
 
     public int missing(int n) {
-        return ahead(n, 2, 0);
+        if (!isDays(n)) {
+            return NONE;
+        }
+        tryDays(n);
+        return trial.dark - now.dark;
     }
 
     public int plan(int what) {
