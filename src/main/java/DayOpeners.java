@@ -489,7 +489,7 @@ public final class DayOpeners {
         if (!told.hasTrade(trade)) {
             return NONE;
         }
-        watchHours(trade, notes.longest());
+        watchHours(trade, 0);
         return notes.fitting();
     }
 
@@ -503,8 +503,10 @@ public final class DayOpeners {
     }
 
     // Lets days go by from the text on with each hour that the trade may have.
-    private void watchHours(int trade, int days) {
+    private void watchHours(int trade, int leastDays) {
         course.goesOf(told);
+        notes.strikeOut();
+        int days = Math.max(leastDays, notes.longest());
         for (int hour = 0; hour < HOURS; hour++) {
             course.hours.set(trade, hour);
             trial.starts(told);
@@ -858,10 +860,6 @@ public final class DayOpeners {
             size = length;
             at = 0;
             next();
-        }
-
-        boolean isWord(int word) {
-            return kind == WORD && value == word;
         }
 
         void next() {
@@ -1553,7 +1551,7 @@ public final class DayOpeners {
         }
 
         // A note is struck only by those behind it: from the last one on, who strikes is settled.
-        private void strikeOut() {
+        void strikeOut() {
             struck.fill(0);
             for (int note = byHowMany() - 1; note >= 0; note--) {
                 if (kinds.get(note) == STRIKES && struck.get(note) == 0) {
@@ -1567,7 +1565,6 @@ public final class DayOpeners {
         }
 
         int longest() {
-            strikeOut();
             int days = 0;
             for (int note = 0; note < byHowMany(); note++) {
                 if (tells(note)) {
@@ -1591,7 +1588,6 @@ public final class DayOpeners {
         }
 
         int fitting() {
-            strikeOut();
             int hours = (1 << HOURS) - 1;
             for (int note = 0; note < byHowMany(); note++) {
                 for (int hour = 0; hour < HOURS; hour++) {
@@ -1739,7 +1735,6 @@ public final class DayOpeners {
         }
 
         void weigh(Told told, State state) {
-            weights.fill(0);
             for (int trade = 0; trade < told.trades; trade++) {
                 weights.set(trade, state.placesOf(trade));
             }

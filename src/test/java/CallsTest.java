@@ -95,9 +95,19 @@ public final class CallsTest {
         CHECK.due("slip 38 is below what is drawn", goneOf("trade a 0 0;turn a;slip 38;seed 1;").count(8), 6);
         CHECK.due("slip 39 is not", goneOf("trade a 0 0;turn a;slip 39;seed 1;").count(8), 7);
         CHECK.due("slip 1", goneOf("trade a 0 0;turn a;slip 1;").count(8), 1);
+        CHECK.due("by 65536: 47 is not below 47", goneBy("slip 47;seed 3;", 1).count(8), 0);
+        CHECK.due("by 65536: 47 is below 48", goneBy("slip 48;seed 3;", 1).count(8), 1);
+        CHECK.due("by 65536: 72 is not below 72", goneBy("slip 72;seed 9;", 1).count(8), 0);
+        CHECK.due("by 65536: 72 is below 73", goneBy("slip 73;seed 9;", 1).count(8), 1);
         // Claimed and dark days draw no number but where the list is asked.
         CHECK.due("claims draw none", goneOf("trade a 0 0;turn a;claim a 0;claim a 1;slip 20;seed 1;").count(8), 4);
         CHECK.due("mistakes though nobody opens", goneOf("trade a 0 0;turn a;law will 0;slip 99;").count(8), 10);
+    }
+
+    private static DayOpeners goneBy(String odds, int days) {
+        DayOpeners x = Check.of("trade a 0 0;turn a;" + odds);
+        x.go(days);
+        return x;
     }
 
     private static DayOpeners goneOf(String text) {
@@ -155,6 +165,7 @@ public final class CallsTest {
         CHECK.due("fame by law", knownBy("law fame 4;", 3), 12);
         CHECK.due("fame at most", knownBy("law fame 10;", 1), 9);
         CHECK.due("fame at least", knownBy("law fame 9-date*18;", 2), 0);
+        CHECK.due("fame far below", knownBy("law fame 9-date/2*100;", 3), 9);
         CHECK.due("fame far below", knownBy("law fame 9-date*2;", 200), 0);
         CHECK.due("fame below 0", knownBy("law fame 0-1;", 2), 0);
         CHECK.due("fame with an error", knownBy("law fame 1/0;", 3), 3);
@@ -174,6 +185,13 @@ public final class CallsTest {
         CHECK.due("day 9800 may begin", x.go(200), 10000);
         CHECK.due("behind 9800", x.go(200), -1);
         CHECK.due("behind 9800", x.go(0), -1);
+        DayOpeners y = Check.of("trade a 1 1;turn a;");
+        for (int i = 0; i < 49; i++) {
+            y.go(200);
+        }
+        CHECK.due("at 9800", y.go(0), 9800);
+        CHECK.due("at 9800", y.go(1), 9801);
+        CHECK.due("one behind 9800", y.go(0), -1);
         CHECK.due("none went by", x.count(5), 10000);
         CHECK.due("opened at most", x.trade(0, 3), 9999);
         CHECK.due("one can look ahead still", x.ahead(200, 4, 0), 4600);
@@ -206,16 +224,31 @@ public final class CallsTest {
         x.appoint(1);
         x.go(1);
         CHECK.due("none behind a day", x.undo(), -1);
-        for (int i = 0; i < 23; i++) {
+        for (int i = 0; i < 22; i++) {
             x.put(0, i % 2);
         }
         CHECK.due("20 at most", x.count(13), 20);
         for (int i = 19; i >= 0; i--) {
             CHECK.due("the latest first", x.undo(), i);
-            CHECK.due("place 0 again", x.place(0), i % 2);
+            CHECK.due("place 0 again", x.place(0), (i + 1) % 2);
         }
         CHECK.due("the oldest are gone", x.undo(), -1);
-        CHECK.due("place 0 as behind the third", x.place(0), 0);
+        CHECK.due("place 0 as behind the second", x.place(0), 1);
+        DayOpeners y = Check.of("trade a 0 0;trade b 1 0;trade c 2 0;turn c;turn a;turn b;turn c;turn b;");
+        y.put(3, 0);
+        y.swap(0, 4);
+        y.appoint(0);
+        y.undo();
+        int[] swapped = {1, 0, 1, 0, 2};
+        int[] told = {2, 0, 1, 2, 1};
+        for (int place = 0; place < 5; place++) {
+            CHECK.due("as behind the swap, place " + place, y.place(place), swapped[place]);
+        }
+        y.undo();
+        y.undo();
+        for (int place = 0; place < 5; place++) {
+            CHECK.due("as told, place " + place, y.place(place), told[place]);
+        }
     }
 
     private static void images() {
@@ -230,7 +263,7 @@ public final class CallsTest {
         for (int what = 0; what < 14; what++) {
             kept[what] = x.count(what);
         }
-        x.go(5);
+        x.go(6);
         long mistakes = x.count(8);
         int length = x.length(0);
         x.note(1, 1, true);
@@ -254,7 +287,7 @@ public final class CallsTest {
         CHECK.due("back: the list", x.place(1), 1);
         CHECK.due("back: appointed", x.opener(0), 1);
         CHECK.due("back: went on", x.work(0, 3), 3);
-        CHECK.due("the same days again", x.go(5), 8);
+        CHECK.due("the same days again", x.go(6), 9);
         CHECK.due("the same numbers again", x.count(8), mistakes);
         CHECK.due("the same lengths again", x.length(0), length);
         CHECK.due("back again", x.back(), 3);

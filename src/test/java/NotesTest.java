@@ -33,6 +33,7 @@ public final class NotesTest {
         }
         DayOpeners y = new DayOpeners();
         CHECK.due("without trades", y.note(60, 24, false), 0);
+        CHECK.due("told by all of a new object", y.count(12), 1);
         for (int no : new int[] {-1, 1, Integer.MAX_VALUE, Integer.MIN_VALUE}) {
             CHECK.due("strike " + no, y.strike(no), -1);
         }
@@ -73,6 +74,12 @@ public final class NotesTest {
         x.note(1, 21, false);
         CHECK.due("also by those to come", x.hours(0), hours(4, 4));
         CHECK.due("no trade 2", x.hours(2), -1);
+        DayOpeners late = Check.of("trade a 5 0;turn a;law length hour*(date/59);");
+        late.note(60, 12, true);
+        late.strike(0);
+        CHECK.due("struck, seen by none", late.hours(0), ALL);
+        late.toldBy(1);
+        CHECK.due("told again, seen behind 60", late.hours(0), hours(12, 23));
         for (int no : NO_INDEX) {
             CHECK.due("hours of " + no, x.hours(no), -1);
         }

@@ -81,6 +81,7 @@ public final class PlansTest {
         bestOf("b, then a", y, 1, 0, -2, -2, -2, -2, -2, 0);
         bestOf("b, then a", y, 2, 1, 0, -2, -2, -2, -2, 1);
         bestOf("b, then a", y, 3, 1, 0, 0, -2, -2, -2, 1);
+        bestOf("b, then a, too few days", y, 1, 0, -2, -2, -2, -2, -2, 0);
         DayOpeners z = Check.of("trade a 0 0;trade b 0 0;law length opened*10;law fame 9;work u 10 10 2;work v 20 20 1;");
         bestOf("opened", z, 2, 0, 0, -2, -2, -2, -2, 0);
         bestOf("opened", z, 3, 0, 0, 0, -2, -2, -2, 1);

@@ -23,6 +23,8 @@ public final class SeatsTest {
         fairs("trade a 0 1;trade b 0 0;turn a;turn b;", 1, 1, 0);
         fairs("trade a 0 0;trade b 0 1;turn a;turn b;", 0, 0, 1);
         fairs("trade a 0 2;trade b 0 0;trade c 0 9;turn a;turn b;turn a;turn c;", 1, 1, 0, 0, 2);
+        fairs("trade a 0 2;trade b 0 1;turn a;turn b;turn b;", 0, 1, 1, 0);
+        fairs("trade a 0 1;trade b 0 0;turn a;turn a;turn b;", 0, 0, 0, 1);
         // A ring of three that no pair would close.
         fairs("trade a 0 1;trade b 0 2;trade c 0 0;turn a;turn b;turn c;", 1, 2, 0, 1);
         // Two want the first place; the nearest of several is the first one.

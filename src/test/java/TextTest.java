@@ -88,9 +88,56 @@ public final class TextTest {
         CHECK.due("a text of blanks", Check.tell(x, " \n \n"), 0);
         CHECK.due("blanks where they need not be", Check.tell(x, "\ntrade\na5 3;turn a ;work w1 2 3;law will(1)or(2);"), 4);
         CHECK.due("its hour", x.trade(0, 0), 5);
+        for (String cut : new String[] {"slip 1|2;", "trade a|bc 1 1;", "law will 1<|=2;", "law will 1|0;"}) {
+            Check.feed(x, cut.replace("|", ""));
+            CHECK.due("text of a part of the tape, " + cut, x.text(cut.indexOf('|')), -1);
+            CHECK.due("what stands behind it isn't read, " + cut, x.fault(1), cut.indexOf('|'));
+        }
         CHECK.due("leading noughts", Check.tell(x, "trade a 00000000000000000023 0009;seed 0000000099999;"), 2);
         CHECK.due("its hour", x.trade(0, 0), 23);
         CHECK.due("its manner", x.trade(0, 1), 9);
+    }
+
+    /** An object that has had other texts, with faults and without, takes the next one as a new object does. */
+    private static void textsAgain() {
+        DayOpeners x = new DayOpeners();
+        String full = "trade a 1 2;trade b 3 4;turn a;turn b;claim b 2;work w 23 23 2;slip 100;seed 5;law length 20;"
+            + "law fame 2;law will date<9;";
+        for (int i = 0; i < 3; i++) {
+            CHECK.due("lines of a text told often", Check.tell(x, full), 11);
+            x.go(20);
+            CHECK.due("dark of it", x.count(9), 11);
+            CHECK.due("mistakes of it", x.count(8), 19);
+        }
+        for (int i = 0; i < 3; i++) {
+            CHECK.due("lines of a small text", Check.tell(x, "trade c 1 1;work w 23 23 2;"), 2);
+            long[] want = {1, 0, 0, 1, 0, 0, 0, 0, 0, 0, 0, 0, 0, 0};
+            for (int what = 0; what < want.length; what++) {
+                CHECK.due("count " + what + " of a small text", x.count(what), want[what]);
+            }
+            CHECK.due("slip of a small text", x.sure(1, 0), 1);
+            CHECK.due("no law of a small text", x.law(0, 0), Long.MIN_VALUE);
+            CHECK.due("work of a small text", x.work(0, 3), 0);
+            x.appoint(0);
+            x.go(1);
+        }
+        CHECK.due("a seed", Check.tell(x, "trade a 1 1;turn a;slip 50;seed 1;"), 4);
+        for (int i = 0; i < 3; i++) {
+            CHECK.due("no seed", Check.tell(x, "trade a 1 1;turn a;slip 50;"), 3);
+        }
+        x.go(1);
+        CHECK.due("no seed is 0", x.count(8), 1);
+        for (String spoilt : new String[] {"law will ((((((((1;", "law will 1+2*(3+4*(", "law will not not 5<7+", "slip 5;seed"}) {
+            CHECK.due("a fault of " + spoilt, Check.tell(x, spoilt), -1);
+            CHECK.due("a text behind it", Check.tell(x, "trade a 1 1;law will 1+((((((((2))))))));slip 5;seed 5;"), 4);
+            CHECK.due("its knots", x.count(4), 3);
+            CHECK.due("its law", x.law(2, 0), 3);
+        }
+        String most = "law will 1" + Check.times(31, "+1") + ";law fame 1;";
+        for (int i = 0; i < 3; i++) {
+            CHECK.due("64 knots again", Check.tell(x, most), 2);
+            CHECK.due("64 knots again", x.count(4), 64);
+        }
     }
 
     private static void faultsOfTokens() {
@@ -215,6 +262,8 @@ public final class TextTest {
         CHECK.fault(most + "law fame (1) or 1;", 2, 86);
         CHECK.fault(most + "law fame 1 <> 1;", 2, 84);
         CHECK.fault(most + "law fame 1;law length date;", 2, 95);
+        CHECK.fault(most + "law fame date;law length date;", 2, 98);
+        CHECK.fault("law will hour" + Check.times(31, "*last") + ";law fame not not date;", 2, 182);
         CHECK.fault(most + "law fame 1;law length not date;", 2, 95);
         // Of one place the least kind: what can't stand there goes ahead of what is too much.
         CHECK.fault(most + "law fame 1 not;", 1, 84);
@@ -283,6 +332,7 @@ public final class TextTest {
         newObject();
         feeds();
         texts();
+        textsAgain();
         faultsOfTokens();
         faultsOfFormulas();
         faultsOfTooMuch();
