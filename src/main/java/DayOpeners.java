@@ -1209,20 +1209,10 @@ public final class DayOpeners {
         private boolean beginsPart() {
             int value = tokens.value;
             if (tokens.kind == Tokens.NUMBER) {
-                if (value > 9999 || counted >= MOST_KNOTS) {
-                    return fails(TOO_MUCH);
-                }
-                counted++;
-                told.laws.add(KNOT_NUMBER, value);
-                return true;
+                return isNumber(0, 9999) && counts() && tells(KNOT_NUMBER, value);
             }
             if (tokens.kind == Tokens.WORD && value >= WORD_HOUR) {
-                if (counted >= MOST_KNOTS) {
-                    return fails(TOO_MUCH);
-                }
-                counted++;
-                told.laws.add(KNOT_NAME, value - WORD_HOUR);
-                return true;
+                return counts() && tells(KNOT_NAME, value - WORD_HOUR);
             }
             if (tokens.kind == Tokens.OPEN) {
                 if (open >= MOST_OPEN) {
@@ -1264,6 +1254,11 @@ public final class DayOpeners {
                 return fails(TOO_MUCH);
             }
             counted++;
+            return true;
+        }
+
+        private boolean tells(int knot, int value) {
+            told.laws.add(knot, value);
             return true;
         }
 

@@ -95,6 +95,41 @@ public final class ModelTest {
         return s;
     }
 
+    /** Words, numbers and signs in any order, most of them where they may stand. */
+    private static String jumble() {
+        StringBuilder s = new StringBuilder();
+        for (int i = pick(40); i > 0; i--) {
+            switch (pick(9)) {
+                case 0:
+                    s.append(one(TRADES));
+                    break;
+                case 1:
+                    s.append(one(STRAY));
+                    break;
+                case 2:
+                    s.append("law ").append(one(new String[] {"length", "fame", "will", "hour"})).append(' ');
+                    break;
+                case 3:
+                    s.append("trade ").append(one(TRADES)).append(" 5 ").append(pick(11));
+                    break;
+                case 4:
+                    s.append(one(SIGNS));
+                    break;
+                case 5:
+                    s.append(formula(2));
+                    break;
+                case 6:
+                    s.append("claim ").append(one(TRADES)).append(' ').append(pick(5)).append(';');
+                    break;
+                default:
+                    s.append(pick(50) == 0 ? (char) pick(256) : ';');
+                    break;
+            }
+            s.append(pick(4) == 0 ? " " : "");
+        }
+        return s.toString();
+    }
+
     private static int near(int n) {
         switch (pick(12)) {
             case 0:
@@ -216,6 +251,8 @@ public final class ModelTest {
                 tell(check, name, x, m, pick(4) == 0 ? spoilt(s) : s);
                 for (int i = 0; i < 6; i++) {
                     tell(check, name, x, m, spoilt(text()));
+                    tell(check, name, x, m, jumble());
+                    tell(check, name, x, m, "trade a 1 1;trade n 2 2;law will " + jumble());
                 }
                 tell(check, name, x, m, s);
                 for (int i = 0; i < (dear ? 100 : 70); i++) {
