@@ -130,6 +130,8 @@ public final class NotesTest {
         asked("trade a 5 0;turn a;law will date>=59;", 0, 60, 1);
         asked("trade a 5 0;turn a;law will date>=60;", 0, 1, 24);
         asked("trade a 5 0;turn a;law length hour-20;", 0, 1, 21);
+        asked("trade a 5 0;turn a;law length hour+20;", 0, 1, 20);
+        asked("trade a 5 0;turn a;law length 23;", 0, 1, 24);
         DayOpeners x = Check.of("trade a 5 0;turn a;law length hour/(5-date);");
         x.note(1, 1, false);
         CHECK.due("of 0 .. 4 behind 1", x.hours(0), hours(0, 4));

@@ -178,6 +178,11 @@ public final class TextTest {
         CHECK.fault("law hour 1;", 1, 4);
         CHECK.fault("law a 1;", 1, 4);
         CHECK.fault("law 1;", 1, 4);
+        CHECK.fault("law 8 1;", 1, 4);
+        CHECK.fault("law turn 1;", 1, 4);
+        CHECK.fault("law or 1;", 1, 4);
+        CHECK.fault("law (1);", 1, 4);
+        CHECK.fault("law", 1, 3);
         String[] words = ("trade turn claim work slip seed law length fame will or and not hour manner known opened left"
             + " last date").split(" ");
         for (String word : words) {
