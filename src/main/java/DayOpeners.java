@@ -16,7 +16,7 @@ public final class DayOpeners {
     private static final int MOST_UNDOS = 20;
     private static final int MOST_DAYS = 200;
     private static final int MOST_BEST_DAYS = 6;
-    private static final int LATEST_START = 9800;
+    private static final int LAST_DAY = 9800;
     private static final int HOURS = 24;
     // The smallest long: no value of a formula comes near it.
     private static final long ERROR = 1L << 63;
@@ -222,7 +222,7 @@ public final class DayOpeners {
     }
 
     public int go(int n) {
-        if (!isDays(n) || now.day > LATEST_START) {
+        if (!isDays(n) || now.day + n > LAST_DAY) {
             return NONE;
         }
         course.goesOf(told);

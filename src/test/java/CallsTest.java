@@ -182,19 +182,39 @@ public final class CallsTest {
         for (int i = 1; i <= 49; i++) {
             CHECK.due("go " + i, x.go(200), 200 * i);
         }
-        CHECK.due("day 9800 may begin", x.go(200), 10000);
-        CHECK.due("behind 9800", x.go(200), -1);
-        CHECK.due("behind 9800", x.go(0), -1);
-        DayOpeners y = Check.of("trade a 1 1;turn a;");
-        for (int i = 0; i < 49; i++) {
-            y.go(200);
-        }
-        CHECK.due("at 9800", y.go(0), 9800);
-        CHECK.due("at 9800", y.go(1), 9801);
-        CHECK.due("one behind 9800", y.go(0), -1);
-        CHECK.due("none went by", x.count(5), 10000);
-        CHECK.due("opened at most", x.trade(0, 3), 9999);
+        CHECK.due("at 9800", x.go(0), 9800);
+        CHECK.due("one behind 9800", x.go(1), -1);
+        CHECK.due("far behind 9800", x.go(200), -1);
+        CHECK.due("none went by", x.count(5), 9800);
+        CHECK.due("none opened", x.trade(0, 3), 9800);
         CHECK.due("one can look ahead still", x.ahead(200, 4, 0), 4600);
+        CHECK.due("the image of day 9800", x.keep(), 9800);
+        CHECK.due("back on day 9800", x.back(), 9800);
+        CHECK.due("and none behind it", x.go(1), -1);
+        DayOpeners y = farOn("");
+        CHECK.due("one too many", y.go(101), -1);
+        CHECK.due("200 too many", y.go(200), -1);
+        CHECK.due("none went by", y.go(0), 9700);
+        CHECK.due("what can be undone stays", y.appoint(0) ? y.go(101) : 0, -1);
+        CHECK.due("what can be undone stays", y.count(13), 1);
+        CHECK.due("one less", y.go(99), 9799);
+        CHECK.due("two too many", y.go(2), -1);
+        CHECK.due("just so many", y.go(1), 9800);
+        CHECK.due("just so many at once", farOn("").go(100), 9800);
+        DayOpeners z = farOn("law length opened-9990;");
+        z.go(100);
+        CHECK.due("opened once less", z.longAt(198), 8);
+        CHECK.due("opened at most", z.longAt(199), 9);
+        CHECK.due("opened no more", z.longAt(200), 9);
+    }
+
+    /** An object on day 9700, whose only trade opened every day. */
+    private static DayOpeners farOn(String more) {
+        DayOpeners x = Check.of("trade a 1 1;turn a;" + more);
+        for (int i = 0; i < 97; i++) {
+            x.go(100);
+        }
+        return x;
     }
 
     private static void undoes() {

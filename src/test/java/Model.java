@@ -714,7 +714,7 @@ final class Model {
     }
 
     int go(int n) {
-        if (!within(n, 0, 200) || now.day > 9800) {
+        if (!within(n, 0, 200) || now.day > 9800 - n) {
             return -1;
         }
         Way way = new Way();

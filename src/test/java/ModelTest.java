@@ -255,6 +255,9 @@ public final class ModelTest {
                     tell(check, name, x, m, "trade a 1 1;trade n 2 2;law will " + jumble());
                 }
                 tell(check, name, x, m, s);
+                for (int i = run % 10 == 0 ? 97 - pick(3) : 0; i > 0; i--) {
+                    check.due(name + " far on", x.go(101), m.go(101));
+                }
                 for (int i = 0; i < (dear ? 100 : 70); i++) {
                     call(check, name + " of " + s, x, m, dear);
                 }
