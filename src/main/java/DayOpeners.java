@@ -1849,7 +1849,7 @@ public final class DayOpeners {
             return depth >= 0 && depth < states.length ? states[depth] : null;
         }
 
-        void seek(int depth, Course course) {
+        private void seek(int depth, Course course) {
             State from = stateBehind(depth);
             State to = stateBehind(depth + 1);
             if (from == null || hopes(from, days - depth) <= most) {
