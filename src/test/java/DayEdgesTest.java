@@ -356,6 +356,27 @@ public final class DayEdgesTest {
         value("9999*9999*9999*9999*9999*9999*9999*9999*0", Long.MIN_VALUE);
     }
 
+    private static String powerOfTwo(int n) {
+        int last = n % 12;
+        return Check.times(n / 12, "4096*") + (1 << last);
+    }
+
+    /** A value above 10 to the 12 (some 2 to the 39.9), also where a long would wrap round to a smaller one. */
+    private static void wraps() {
+        for (int a = 0; a < 40; a++) {
+            for (int b = 0; b < 40; b++) {
+                long want = a + b < 40 ? 1L << a + b : Long.MIN_VALUE;
+                value("(" + powerOfTwo(a) + ")*(" + powerOfTwo(b) + ")", want);
+                value("(0-" + powerOfTwo(a) + ")*(" + powerOfTwo(b) + ")", want == Long.MIN_VALUE ? want : -want);
+            }
+        }
+        for (int a = 0; a < 40; a++) {
+            long power = 1L << a;
+            value(powerOfTwo(a) + "+" + powerOfTwo(a), a < 39 ? 2 * power : Long.MIN_VALUE);
+            value("0-" + powerOfTwo(a) + "-" + powerOfTwo(a), a < 39 ? -2 * power : Long.MIN_VALUE);
+        }
+    }
+
     /** Numbers: the last one, whole, times 1103515245 and 12345, without what is above 31 bits; what is told is that by 65536. */
     private static void numbers() {
         for (int seed : new int[] {0, 1, 2, 77, 65535, 65536, 99998, 99999}) {
@@ -405,6 +426,7 @@ public final class DayEdgesTest {
         names();
         truths();
         errors();
+        wraps();
         numbers();
         asItGoes();
         CHECK.ends();
