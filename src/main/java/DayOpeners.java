@@ -353,7 +353,7 @@ public final class DayOpeners {
         }
         course.goesOf(told);
         plans.begin(told, now, n);
-        plans.seek(0, course);
+        Plans.seek(plans, 0, course);
         return what == MOST_BEST_DAYS ? plans.most : plans.bestRow.get(what);
     }
 
@@ -1800,7 +1800,7 @@ public final class DayOpeners {
                 suits.set(trade, works);
             }
             for (int total = 0; total <= MOST_PLAN_DAYS; total++) {
-                if (spreads(0, total)) {
+                if (spreads(this, 0, total)) {
                     return total;
                 }
             }
@@ -1808,14 +1808,15 @@ public final class DayOpeners {
         }
 
         // The first trades get as many days as can be; the last one gets all that are left.
-        private boolean spreads(int trade, int left) {
-            if (trade >= told.trades) {
-                return left == 0 && allDone();
+        private static boolean spreads(Plans plans, int trade, int left) {
+            int trades = plans.told.trades;
+            if (trade >= trades) {
+                return left == 0 && plans.allDone();
             }
-            int least = trade + 1 < told.trades ? 0 : left;
+            int least = trade + 1 < trades ? 0 : left;
             for (int share = left; share >= least; share--) {
-                shares.set(trade, share);
-                if (spreads(trade + 1, left - share)) {
+                plans.shares.set(trade, share);
+                if (spreads(plans, trade + 1, left - share)) {
                     return true;
                 }
             }
@@ -1849,23 +1850,23 @@ public final class DayOpeners {
             return depth >= 0 && depth < states.length ? states[depth] : null;
         }
 
-        private void seek(int depth, Course course) {
-            State from = stateBehind(depth);
-            State to = stateBehind(depth + 1);
-            if (from == null || hopes(from, days - depth) <= most) {
+        private static void seek(Plans plans, int depth, Course course) {
+            State from = plans.stateBehind(depth);
+            State to = plans.stateBehind(depth + 1);
+            if (from == null || plans.hopes(from, plans.days - depth) <= plans.most) {
                 return;
             }
-            if (depth == days) {
-                most = told.works - from.left;
-                bestRow.copy(row);
+            if (depth == plans.days) {
+                plans.most = plans.told.works - from.left;
+                plans.bestRow.copy(plans.row);
                 return;
             }
-            for (int trade = 0; trade < told.trades && to != null; trade++) {
-                row.set(depth, trade);
+            for (int trade = 0; trade < plans.told.trades && to != null; trade++) {
+                plans.row.set(depth, trade);
                 to.copy(from);
                 to.appointed = trade;
                 course.dayGoes(to);
-                seek(depth + 1, course);
+                seek(plans, depth + 1, course);
             }
         }
 
